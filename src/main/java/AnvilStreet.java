@@ -847,6 +847,8 @@ public final class AnvilStreet {
   /** ORDERS told by figures, and the way to make them with least FOREIGN. */
   private static final class Plan {
     static final int MOST = 4;
+    // More FOREIGN than any way can have: 4 times 3 times 42.
+    static final int ABOVE_ALL = 1000;
 
     final int[] tempers = new int[MOST];
     final int[] way = new int[MOST];
@@ -877,26 +879,26 @@ public final class AnvilStreet {
 
     void search(Street street, int n) {
       blows = n;
-      least = Integer.MAX_VALUE;
-      place(street, 0, 0);
+      least = ABOVE_ALL;
+      place(this, street, 0, 0);
     }
 
     // A way that has as much FOREIGN as the least one is left: it comes behind it.
-    private void place(Street street, int order, int strange) {
-      if (strange >= least) {
+    private static void place(Plan plan, Street street, int order, int strange) {
+      if (strange >= plan.least) {
         return;
       }
-      if (order >= size || order >= MOST) {
-        least = strange;
-        System.arraycopy(way, 0, chosen, 0, way.length);
+      if (order >= plan.size || order >= MOST) {
+        plan.least = strange;
+        System.arraycopy(plan.way, 0, plan.chosen, 0, plan.way.length);
         return;
       }
-      int temper = tempers[order];
+      int temper = plan.tempers[order];
       for (int a = 0; a < street.anvils; a++) {
         int was = street.remembered(a, temper);
-        way[order] = a;
-        int more = street.beat(a, temper, blows);
-        place(street, order + 1, strange + more);
+        plan.way[order] = a;
+        int more = street.beat(a, temper, plan.blows);
+        place(plan, street, order + 1, strange + more);
         street.setMemory(a, temper, was);
       }
     }
