@@ -267,6 +267,8 @@ public final class EdgesOfDaysTest {
         int before = made - may + left;
         due("undo", x.undo(), (before + 3) / 4);
         due("the memory", x.of(0, 2), before % 4 == 3 ? 1 : 0);
+        // the last HAND told ahead of it was told as number 1, 5, 9 ..
+        due("the hand", x.count(2), before < 2 ? 0 : ((before - 2) / 4 * 4 + 1) % 10);
         due("left", x.count(5), left);
       }
       due("undo beyond", x.undo(), -3);

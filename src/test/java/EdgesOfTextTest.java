@@ -87,6 +87,10 @@ public final class EdgesOfTextTest {
     CHECK.due("all days go by", x.count(1), 35);
     CHECK.due("clear of 150", x.clear(), 150);
     CHECK.due("type behind clear", x.type(32), 1);
+    fault(";".repeat(150), 0);
+    fault("1;".repeat(75), 0);
+    fault("street 1;" + ";".repeat(141), 9);
+    fault("street 1;" + "a1".repeat(70) + ";", 9);
     fault("street 1;" + "day;".repeat(35) + "!", 149);
     fault("street 01;" + "day;".repeat(34) + "day ", 150);
     fault("street 1;" + "day;".repeat(34) + "day", 148);
@@ -170,7 +174,7 @@ public final class EdgesOfTextTest {
     for (String word : new String[] {"a", "z", "stree", "streets", "treet", "sstreet", "strest", "abcdefghijklmnopqrstuvwxyz"}) {
       fault(word + " 1;", 0);
     }
-    for (String word : new String[] {"a", "z", "da", "days", "ay", "dax", "bay", "dzy"}) faultBehind(word + ";", 0);
+    for (String word : new String[] {"a", "z", "da", "days", "daya", "dayz", "ay", "aday", "zday", "dax", "bay", "dzy"}) faultBehind(word + ";", 0);
     for (String word : new String[] {"anvi", "anvils", "nvil", "bnvil", "anvim", "anvl"}) faultBehind(word + " 0 0 0 0 0;", 0);
     for (String word : new String[] {"wor", "works", "ork", "xork", "worm", "wrk"}) {
       faultBehind("anvil 0 0 0 0 0;" + word + " 0 0 1;", 16);

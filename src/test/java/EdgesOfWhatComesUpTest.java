@@ -165,6 +165,16 @@ public final class EdgesOfWhatComesUpTest {
     due("of another anvil", x.clean(1), 3);
     AnvilStreet y = made(0, 9, new int[] {PLAIN, 0, 0, 0, 3});
     due("whatever the hand is", y.clean(0), 3);
+    int[] stone = {STONE, 1, 1, 1, 1};
+    int[] nothing = {PLAIN, 0, 0, 0, 0};
+    for (int a = 0; a < 4; a++) {
+      AnvilStreet z = made(0, 0, a == 0 ? nothing : stone, a == 1 ? nothing : stone, a == 2 ? nothing : stone,
+          a == 3 ? nothing : stone);
+      for (int b = 0; b < 4; b++) {
+        due("clean " + b + ", nothing on " + a, z.clean(b), a == b ? 0 : -1);
+        due("keep " + b + ", nothing on " + a, z.keep(b), a == b ? 0 : -1);
+      }
+    }
   }
 
   private static void cleanBeyondTheLastDay() {
@@ -207,6 +217,7 @@ public final class EdgesOfWhatComesUpTest {
     due("cloth of 9", one(0, CLOTH, 9).keep(0), 9);
     due("cloth of 10", one(0, CLOTH, 10).keep(0), 0);
     due("cloth of 20", one(0, CLOTH, 20).keep(0), 0);
+    due("cloth of 10 and more of each", made(0, 0, new int[] {CLOTH, 10, 20, 11, 15}).keep(0), 0);
   }
 
   /** Promise 18: "none: no ANVILS". */
@@ -371,6 +382,10 @@ public final class EdgesOfWhatComesUpTest {
     due("not 31", one(0, COLD, 16).waits(0, 0, 0, 0), -1);
     due("waits 30", one(1, COLD, 15).waits(0, 0, 0, 0), 30);
     due("not 32", one(1, COLD, 16).waits(0, 0, 0, 0), -1);
+    // OLD fades behind 3, not behind 1 and 2.
+    due("waits 3, old", one(1, OLD, 1).waits(0, 0, 0, 0), 3);
+    due("waits 2, old", one(2, OLD, 1).waits(0, 0, 0, 0), 2);
+    due("waits 1, old", one(3, OLD, 1).waits(0, 0, 0, 0), 1);
     due("never", one(0, STONE, 1).waits(0, 0, 3, 0), -1);
     due("at once", one(0, STONE, 1).waits(0, 0, 4, 0), 0);
     due("waits 20", one(0, PLAIN, 20).waits(0, 0, 0, 0), 20);

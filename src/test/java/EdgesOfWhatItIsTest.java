@@ -32,6 +32,7 @@ public final class EdgesOfWhatItIsTest {
     frostInLowestTerms();
     streetsOfNone();
     streetsOfSixty();
+    streetsAtTheCuts();
     streetsWhereNoneIsThere();
     streetsBeyondTheLastDay();
     CHECK.end();
@@ -464,6 +465,17 @@ public final class EdgesOfWhatItIsTest {
     }
     new Twins(CHECK, Twins::some).asked("streets 999999 60", x -> x.streets(999999, 60), byCalls(Twins.some(), 999999, 60));
     new Twins(CHECK, Twins::full).refused("streets 999999 61", x -> x.streets(999999, 61), -2, Twins.BAD);
+  }
+
+  /** SEEDS by which some X is 0 or all but 1 less by 16777216 or 1048576: just cut, or just not. */
+  private static void streetsAtTheCuts() {
+    int[] seeds = {740226, 617975, 779828, 996615, 248944, 771696, 137925, 501379, 899870, 104754, 328537};
+    for (int seed : seeds) {
+      for (int kind = 0; kind < 6; kind++) {
+        AnvilStreet x = fourOf(0, kind, kind, kind, kind);
+        due("streets " + seed + ", kind " + kind, x.streets(seed, 60), byCalls(x, seed, 60));
+      }
+    }
   }
 
   /** "(not there: none)", "then a DAY goes by" all the same. */

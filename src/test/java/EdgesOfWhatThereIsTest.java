@@ -134,6 +134,39 @@ public final class EdgesOfWhatThereIsTest {
     x.from(1);
     due("may be undone, once more", x.count(5), 8);
     due("undo, once more", x.undo(), 8);
+    keptBesideAnother();
+  }
+
+  /** Eight of one street, kept, while another one has eight of its own. */
+  private static void keptBesideAnother() {
+    AnvilStreet x = new AnvilStreet();
+    x.street(9);
+    x.anvil(0, 20, 20, 20, 20);
+    for (int i = 0; i < 4; i++) {
+      x.day(1);
+      x.hand(i);
+    }
+    x.image(0);
+    x.street(8);
+    x.anvil(4, 7, 7, 7, 7);
+    for (int i = 0; i < 8; i++) x.day(60);
+    x.image(1);
+    x.street(0);
+    x.from(0);
+    for (int i = 3; i >= 0; i--) {
+      due("undo hand " + i, x.undo(), i + 1);
+      due("the hand", x.count(2), i == 0 ? 9 : i - 1);
+      due("the memory", x.of(0, 4), 20 - i - 1);
+      due("undo day " + i, x.undo(), i);
+      due("the memory", x.of(0, 4), 20 - i);
+    }
+    x.from(1);
+    for (int i = 7; i >= 0; i--) {
+      due("undo", x.undo(), 60 * i);
+      due("the hand", x.count(2), 8);
+      due("the memory", x.of(0, 1), 7);
+    }
+    due("undo", x.undo(), -3);
   }
 
   /** "keep all but them, THE TEXT, THE FRACTION and STATUS". */
