@@ -1045,7 +1045,6 @@ public final class AnvilStreet {
     /** Of TOKENS scanned: how many ITEMS, or -10 less the FAULT (the street is of no use then). */
     int build(Street street) {
       current = 0;
-      street.begin(0);
       if (!isNow(STREET) || !takesNumber(0, MOST_HAND)) {
         return fault();
       }
